@@ -1,0 +1,229 @@
+/** Promises 1 to 9: the new object, texts, settings, worth, what is read. */
+public final class TextsTest {
+    private static final Checks C = new Checks();
+
+    public static void main(String[] args) {
+        newObject();
+        type();
+        wipeAndUndo();
+        faultOfMatters();
+        faultOfLetters();
+        matter();
+        set();
+        worth();
+        read();
+        C.end();
+    }
+
+    private static void newObject() {
+        AnswersFirst x = new AnswersFirst();
+        int[] counts = {0, 0, 0, 0, 0, 0, 0, 9, 0};
+        for (int what = 0; what < counts.length; what++) {
+            C.due("new: count(" + what + ")", x.count(what), counts[what]);
+        }
+        for (int text = 0; text < 3; text++) {
+            C.due("new: fault", x.fault(text), AnswersFirst.NONE);
+        }
+        for (int s = 0; s < 4; s++) {
+            C.due("new: lose", x.lose(s), -11);
+        }
+        C.due("NONE", AnswersFirst.NONE, -1);
+        C.due("BAD", AnswersFirst.BAD, -2);
+        C.due("NOT", AnswersFirst.NOT, -3);
+        C.due("FULL", AnswersFirst.FULL, -4);
+    }
+
+    private static void type() {
+        AnswersFirst x = new AnswersFirst();
+        int[] most = {80, 60, 60};
+        for (int text = 0; text < 3; text++) {
+            for (int i = 1; i <= most[text]; i++) {
+                C.due("type", x.type(text, 255), i);
+            }
+            C.due("type: full", x.type(text, 0), -4);
+            C.due("type: bad ahead of full", x.type(text, 256), -2);
+            C.due("type: refused, nothing changes", x.count(3 + text), most[text]);
+        }
+        C.due("type(-1, 0)", x.type(-1, 0), -2);
+        C.due("type(3, 0)", x.type(3, 0), -2);
+        x.wipe(0);
+        C.due("type(0, -1)", x.type(0, -1), -2);
+        C.due("type(0, 256)", x.type(0, 256), -2);
+        C.due("type(0, 0)", x.type(0, 0), 1);
+        C.due("byte 0 is a fault", x.fault(0), 0);
+        C.due("a byte above 127 is no figure", wellWith(x, 0, (char) 176), 0);
+    }
+
+    private static int wellWith(AnswersFirst x, int text, char first) {
+        Checks.say(x, text, first + "110ya");
+        return x.fault(text);
+    }
+
+    private static void wipeAndUndo() {
+        AnswersFirst x = Checks.withMatters("0110ya");
+        C.due("undo(0)", x.undo(0), 5);
+        C.due("undone: fault", x.fault(0), 5);
+        C.due("undone: count(0)", x.count(0), 0);
+        x.type(0, 'a');
+        C.due("again: count(0)", x.count(0), 1);
+        C.due("wipe(0)", x.wipe(0), 6);
+        C.due("wiped: count(0)", x.count(0), 0);
+        C.due("wipe(0) again", x.wipe(0), 0);
+        C.due("undo(0), empty", x.undo(0), -3);
+        for (int text : new int[] {-1, 3, Integer.MIN_VALUE, Integer.MAX_VALUE}) {
+            C.due("wipe, no such text", x.wipe(text), -2);
+            C.due("undo, no such text", x.undo(text), -2);
+            C.due("fault, no such text", x.fault(text), -2);
+        }
+        Checks.say(x, 2, "1001");
+        C.due("undo(2)", x.undo(2), 3);
+        C.due("wipe(2)", x.wipe(2), 3);
+    }
+
+    private static void faultOfMatters() {
+        faultIs(0, "", -1);
+        faultIs(0, "0110ya", -1);
+        faultIs(0, "5499ns9", -1);
+        faultIs(0, "6110ya", 0);
+        faultIs(0, "/110ya", 0);
+        faultIs(0, ";", 0);
+        faultIs(0, "0610ya", 1);
+        faultIs(0, "0010ya", 1);
+        faultIs(0, "0", 1);
+        faultIs(0, "01:0ya", 2);
+        faultIs(0, "011;ya", 3);
+        faultIs(0, "0110sa", 4);
+        faultIs(0, "0110", 4);
+        faultIs(0, "0110yA", 5);
+        faultIs(0, "0110y", 5);
+        faultIs(0, "0110yy", 6);
+        faultIs(0, "0110yy:", 6);
+        faultIs(0, "0110ya0", 6);
+        faultIs(0, "0110ye;", 7);
+        faultIs(0, "0110ys0;", 8);
+        faultIs(0, "0110yn0;1", 9);
+        faultIs(0, "0110yn0;11", 9);
+        faultIs(0, "0110yn0;12", 10);
+        faultIs(0, Checks.times("0110yy0", 10), -1);
+        faultIs(0, Checks.times("0110ya", 10) + ";", 70);
+        faultIs(0, Checks.times("0110ya", 11), 70);
+        faultIs(0, Checks.times("0110ya", 10) + ",", 69);
+        faultIs(0, Checks.times("0110yy0", 10) + ";", 80);
+        AnswersFirst x = Checks.withMatters(Checks.times("0110ya", 11));
+        C.due("a fault: as if empty", x.count(0), 0);
+        C.due("a fault: rows()", x.rows(-1), 1);
+        C.due("a fault: matter()", x.matter(0, 0), -2);
+    }
+
+    private static void faultOfLetters() {
+        for (int text = 1; text <= 2; text++) {
+            faultIs(text, "", -1);
+            faultIs(text, "0001", -1);
+            faultIs(text, "9954", -1);
+            faultIs(text, "a001", 0);
+            faultIs(text, "0", 1);
+            faultIs(text, "0061", 2);
+            faultIs(text, "0006", 3);
+            faultIs(text, "0055", 3);
+            faultIs(text, "000", 3);
+            faultIs(text, "00010", 4);
+            faultIs(text, "0001;", 5);
+            faultIs(text, "0001;00", 7);
+            faultIs(text, Checks.times("0001", 10), -1);
+            faultIs(text, Checks.times("0001", 10) + ";", 50);
+            faultIs(text, Checks.times("0001", 11), 50);
+        }
+        AnswersFirst x = new AnswersFirst();
+        Checks.say(x, 1, "0001;1001");
+        Checks.say(x, 2, "0901;1011;");
+        C.due("count(1)", x.count(1), 2);
+        C.due("count(2), a fault", x.count(2), 0);
+    }
+
+    private static void faultIs(int text, String signs, int place) {
+        AnswersFirst x = new AnswersFirst();
+        Checks.say(x, text, signs);
+        C.due("fault of " + signs, x.fault(text), place);
+    }
+
+    private static void matter() {
+        AnswersFirst x = Checks.withMatters("0110ya;5407ne;2399yy0;1200nn9;3155ys3");
+        int[][] due = {
+            {0, 1, 10, 1, 0, -1}, {5, 4, 7, 0, 1, -1}, {2, 3, 99, 1, 2, 0}, {1, 2, 0, 0, 3, 9}, {3, 1, 55, 1, 4, 3}
+        };
+        for (int m = 0; m < due.length; m++) {
+            for (int what = 0; what < 6; what++) {
+                C.due("matter(" + m + ", " + what + ")", x.matter(m, what), due[m][what]);
+            }
+            C.due("matter(.., 6)", x.matter(m, 6), -2);
+            C.due("matter(.., -1)", x.matter(m, -1), -2);
+        }
+        C.due("matter(5, 0)", x.matter(5, 0), -2);
+        C.due("matter(-1, 0)", x.matter(-1, 0), -2);
+    }
+
+    private static void set() {
+        int[] first = {9, 0, 5, 0};
+        int[] least = {1, 0, 0, 0};
+        int[] most = {20, 9, 99, 1023};
+        AnswersFirst x = new AnswersFirst();
+        for (int what = 0; what < 4; what++) {
+            C.due("set: too little", x.set(what, least[what] - 1), -2);
+            C.due("set: too much", x.set(what, most[what] + 1), -2);
+            C.due("set: what it was at first", x.set(what, most[what]), first[what]);
+            C.due("set: what it was", x.set(what, least[what]), most[what]);
+            C.due("set: the least", x.set(what, least[what]), least[what]);
+        }
+        C.due("set(-1, 1)", x.set(-1, 1), -2);
+        C.due("set(4, 1)", x.set(4, 1), -2);
+        C.due("count(7)", x.count(7), 1);
+    }
+
+    private static void worth() {
+        AnswersFirst x = new AnswersFirst();
+        for (int m = 0; m < 10; m++) {
+            C.due("worth, at first", x.worth(m, -9), 1);
+            C.due("worth, the least", x.worth(m, 9), -9);
+            C.due("worth, too much", x.worth(m, 10), -1002);
+            C.due("worth, too little", x.worth(m, -10), -1002);
+            C.due("worth, the most", x.worth(m, 0), 9);
+        }
+        C.due("worth(-1, 0)", x.worth(-1, 0), -1002);
+        C.due("worth(10, 0)", x.worth(10, 0), -1002);
+    }
+
+    private static void read() {
+        AnswersFirst x = Checks.withMatters("0110ya;0110ne");
+        C.due("read, lost", x.read(0), -11);
+        C.due("read, lost: count(8)", x.count(8), 1);
+        C.due("read(-1)", x.read(-1), -2);
+        C.due("read(4)", x.read(4), -2);
+        fill(x, 0, 0, 1, 1, 0, 0);
+        C.due("read, two whole", x.read(0), 2);
+        C.due("refused by what was read", x.refused(0), 1);
+        C.due("read takes the place of what was seen", x.read(0), 2);
+        C.due("count(6)", x.count(6), 2);
+        fill(x, 0, 10, 0, 1, 1);
+        C.due("read, no such matter", x.read(0), 0);
+        C.due("read, none: count(6)", x.count(6), 0);
+        fill(x, 0, 3, 1, 0, 2, 1, 1);
+        C.due("read, neither 1 nor 0", x.read(0), 1);
+        fill(x, 1, -1, 1, 0, 0);
+        C.due("read, below 0", x.read(0), 0);
+        fill(x, 2, 0, -1, 0, 0);
+        C.due("read, below 0", x.read(0), 0);
+        x.sheet(3, 2, 48);
+        C.due("read, eight at most", x.read(3), 8);
+        C.due("seen, eight at most", x.seen(0, 0), -4);
+        x.sheet(3, 2, 0);
+        C.due("read, no items", x.read(3), 0);
+        C.due("read, no items: count(6)", x.count(6), 0);
+    }
+
+    private static void fill(AnswersFirst x, int form, int... items) {
+        x.sheet(0, form, items.length);
+        for (int i = 0; i < items.length; i++) {
+            x.put(0, form, i, items[i]);
+        }
+    }
+}

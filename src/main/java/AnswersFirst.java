@@ -7,6 +7,8 @@ public final class AnswersFirst {
     private static final int MATTERS = 0, REPLIES = 1, LETTERS = 2, TEXTS = 3;
     private static final int MOST_ENTRIES = 10, MOST_ROWS = 1024, PERSONS = 6, MOST_DAY = 99;
     private static final int WHO = 0, TO = 1, DAY = 2, WORD = 3, WHEN = 4, BY = 5, PARTS = 6;
+    private static final int[] MATTER_FORM = {WHO, TO, DAY, DAY, WORD, WHEN, BY};
+    private static final int[] LETTER_FORM = {DAY, DAY, WHO, TO};
     private static final int ALWAYS = 0, IF_YES = 2, IF_NO = 3, IF_SILENCE = 4;
     private static final int LAG = 0, GRACE = 1, FINE = 2, LET_OFF = 3, SETTINGS = 4;
     private static final int[] LEAST_SETTING = {1, 0, 0, 0};
@@ -17,8 +19,9 @@ public final class AnswersFirst {
     private static final int ANY_NUMBER = -1000, FINDING = -10, WELL = 0;
 
     private final Text[] texts = {new Text(80), new Text(60), new Text(60)};
-    private final Entries[] entries = {new Entries(true), new Entries(false), new Entries(false)};
-    private final boolean[] unread = {true, true, true};
+    private final Entries[] entries = {
+        new Entries(MATTER_FORM), new Entries(LETTER_FORM), new Entries(LETTER_FORM)
+    };
     private final int[] settings = {9, 0, 5, 0};
     private final int[] worths = {1, 1, 1, 1, 1, 1, 1, 1, 1, 1};
     private final Rows rows = new Rows();
@@ -43,7 +46,8 @@ public final class AnswersFirst {
             return FULL;
         }
         texts[text].append(b);
-        textHasChanged(text);
+        entries[text].take(b);
+        markOld();
         return texts[text].length();
     }
 
@@ -53,7 +57,8 @@ public final class AnswersFirst {
         }
         int had = texts[text].length();
         texts[text].clearAll();
-        textHasChanged(text);
+        entries[text].begin();
+        markOld();
         return had;
     }
 
@@ -65,7 +70,8 @@ public final class AnswersFirst {
             return NOT;
         }
         texts[text].dropLast();
-        textHasChanged(text);
+        entries[text].readAgain(texts[text]);
+        markOld();
         return texts[text].length();
     }
 
@@ -73,14 +79,14 @@ public final class AnswersFirst {
         if (isOutside(text, TEXTS)) {
             return BAD;
         }
-        return entriesOf(text).faultPlace();
+        return entries[text].faultPlace();
     }
 
     public int matter(int matter, int what) {
         if (isNoMatter(matter) || isOutside(what, PARTS)) {
             return BAD;
         }
-        return entriesOf(MATTERS).part(matter, what);
+        return entries[MATTERS].part(matter, what);
     }
 
     public int set(int what, int v) {
@@ -89,8 +95,7 @@ public final class AnswersFirst {
         }
         int was = settings[what];
         settings[what] = v;
-        rowsAreOld = true;
-        accountsAreOld = true;
+        markOld();
         return was;
     }
 
@@ -199,43 +204,44 @@ public final class AnswersFirst {
         if (isNoRow(row) || isOutside(person, PERSONS) || isNoDay(day)) {
             return BAD;
         }
-        return row & ownMatters(person) & entriesOf(MATTERS).byDay(day + settings[LAG]);
+        return row & entries[MATTERS].with(WHO, person) & entries[MATTERS].byDay(day + settings[LAG]);
     }
 
     public int asked(int row, int person, int day) {
         if (isNoRow(row) || isOutside(person, PERSONS) || isNoDay(day)) {
             return BAD;
         }
-        return row & ownMatters(person) & entriesOf(MATTERS).byDay(day);
+        return row & entries[MATTERS].with(WHO, person) & entries[MATTERS].byDay(day);
     }
 
     public int open(int row, int day) {
         if (isNoRow(row) || isNoDay(day)) {
             return BAD;
         }
-        Entries matters = entriesOf(MATTERS);
-        return row & matters.byDay(day + settings[LAG]) & ~matters.byDay(day);
+        return row & entries[MATTERS].byDay(day + settings[LAG]) & ~entries[MATTERS].byDay(day);
     }
 
     public int best(int person, int what) {
         if (isOutside(person, PERSONS) || isOutside(what, 2)) {
             return ANY_NUMBER + BAD;
         }
-        int row = bestRow(person);
+        int own = entries[MATTERS].with(WHO, person);
+        int row = bestRow(rowsNow(), own);
         if (what == 1) {
             return row;
         }
-        return row == NONE ? ANY_NUMBER + NOT : worthOf(row, ownMatters(person));
+        return row == NONE ? ANY_NUMBER + NOT : worthOf(row, own);
     }
 
     public int rest(int row, int person) {
         if (isNoRow(row) || isOutside(person, PERSONS)) {
             return BAD;
         }
-        if (rowsNow().brokenBy(row) != 0) {
+        Rows now = rowsNow();
+        if (now.brokenBy(row) != 0) {
             return NOT;
         }
-        return hasBetter(row, ownMatters(person)) ? 0 : 1;
+        return hasBetter(now, row, entries[MATTERS].with(WHO, person)) ? 0 : 1;
     }
 
     // ---- replies, letters
@@ -244,7 +250,8 @@ public final class AnswersFirst {
         if (person != NONE && isOutside(person, PERSONS)) {
             return BAD;
         }
-        return person == NONE ? accountsNow().owedByAll() : owedBy(person);
+        int theirs = person == NONE ? MOST_ROWS - 1 : entries[REPLIES].with(TO, person);
+        return accountsNow().owedAmong(theirs);
     }
 
     public int lack() {
@@ -259,7 +266,7 @@ public final class AnswersFirst {
         if (isOutside(person, PERSONS)) {
             return BAD;
         }
-        return owedBy(person) * settings[FINE];
+        return accountsNow().owedAmong(entries[REPLIES].with(TO, person)) * settings[FINE];
     }
 
     public int seen(int matter, int is) {
@@ -285,7 +292,7 @@ public final class AnswersFirst {
         }
         Rows now = rowsNow();
         int agreeing = 0;
-        int inAllOfThem = entriesOf(MATTERS).with(WORD, 0);
+        int inAllOfThem = entries[MATTERS].with(WORD, 0);
         for (int i = 0; i < now.howMany(); i++) {
             int row = now.nth(i);
             if (seen.agreesWith(row)) {
@@ -303,7 +310,7 @@ public final class AnswersFirst {
         if (n < 0 || n > MOST_LOTS) {
             return BAD;
         }
-        int matters = entriesOf(MATTERS).howMany();
+        int matters = entries[MATTERS].howMany();
         lots.beginWith(seed);
         if (n == 0) {
             return lots.drawRow(matters);
@@ -343,8 +350,11 @@ public final class AnswersFirst {
     }
 
     public int put(int s, int form, int i, int v) {
-        int refusal = itemRefusal(s, form, i);
-        if (refusal != WELL || isOutside(s, SHEETS)) {
+        if (isOutside(s, SHEETS)) {
+            return BAD;
+        }
+        int refusal = itemRefusal(sheets[s], form, i);
+        if (refusal != WELL) {
             return refusal;
         }
         sheets[s].setItem(i, v);
@@ -352,8 +362,7 @@ public final class AnswersFirst {
     }
 
     public int get(int s, int form, int i) {
-        int refusal = itemRefusal(s, form, i);
-        if (refusal != WELL || isOutside(s, SHEETS)) {
+        if (isOutside(s, SHEETS) || itemRefusal(sheets[s], form, i) != WELL) {
             return Integer.MIN_VALUE;
         }
         return sheets[s].item(i);
@@ -395,7 +404,7 @@ public final class AnswersFirst {
             case 0:
             case 1:
             case 2:
-                return entriesOf(what).howMany();
+                return entries[what].howMany();
             case 3:
             case 4:
             case 5:
@@ -431,7 +440,7 @@ public final class AnswersFirst {
 
     private long mixedWithMatters(long start) {
         long h = start;
-        int n = entriesOf(MATTERS).howMany();
+        int n = entries[MATTERS].howMany();
         for (int m = 0; m < n; m++) {
             for (int what = 0; what < PARTS; what++) {
                 h = mixed(h, matter(m, what));
@@ -508,7 +517,7 @@ public final class AnswersFirst {
     }
 
     private boolean isNoMatter(int matter) {
-        return isOutside(matter, entriesOf(MATTERS).howMany());
+        return isOutside(matter, entries[MATTERS].howMany());
     }
 
     private int finding(int number) {
@@ -516,46 +525,30 @@ public final class AnswersFirst {
         return FINDING - number;
     }
 
-    private int itemRefusal(int s, int form, int i) {
-        if (isOutside(s, SHEETS) || isOutside(form, FORMS)) {
+    private int itemRefusal(Sheet sheet, int form, int i) {
+        if (isOutside(form, FORMS)) {
             return BAD;
         }
-        if (sheets[s].isLost()) {
+        if (sheet.isLost()) {
             return finding(NULL);
         }
-        if (sheets[s].form() != form) {
+        if (sheet.form() != form) {
             return finding(CAST);
         }
-        return isOutside(i, sheets[s].length()) ? finding(INDEX) : WELL;
+        return isOutside(i, sheet.length()) ? finding(INDEX) : WELL;
     }
 
-    private void textHasChanged(int text) {
-        if (isOutside(text, TEXTS)) {
-            return;
-        }
-        unread[text] = true;
-        if (text == MATTERS) {
-            rowsAreOld = true;
-        } else {
-            accountsAreOld = true;
-        }
-    }
+    // Rows and accounts are worked out only when they are asked for, and kept till something
+    // changes: most calls type one byte.
 
-    // What a text says, its rows and its accounts are worked out only when they are asked for,
-    // and kept till something changes: most calls type one byte.
-
-    private Entries entriesOf(int text) {
-        int known = isOutside(text, TEXTS) ? MATTERS : text;
-        if (unread[known]) {
-            entries[known].readFrom(texts[known]);
-            unread[known] = false;
-        }
-        return entries[known];
+    private void markOld() {
+        rowsAreOld = true;
+        accountsAreOld = true;
     }
 
     private Rows rowsNow() {
         if (rowsAreOld) {
-            rows.workOut(entriesOf(MATTERS), settings[LAG], settings[LET_OFF]);
+            rows.workOut(entries[MATTERS], settings[LAG], settings[LET_OFF]);
             rowsAreOld = false;
         }
         return rows;
@@ -563,18 +556,10 @@ public final class AnswersFirst {
 
     private Accounts accountsNow() {
         if (accountsAreOld) {
-            accounts.workOut(entriesOf(REPLIES), entriesOf(LETTERS), settings[LAG], settings[GRACE]);
+            accounts.workOut(entries[REPLIES], entries[LETTERS], settings[LAG], settings[GRACE]);
             accountsAreOld = false;
         }
         return accounts;
-    }
-
-    private int ownMatters(int person) {
-        return entriesOf(MATTERS).with(WHO, person);
-    }
-
-    private int owedBy(int person) {
-        return accountsNow().owedAmong(entriesOf(REPLIES).with(TO, person));
     }
 
     private int worthOf(int row, int own) {
@@ -588,9 +573,7 @@ public final class AnswersFirst {
         return sum;
     }
 
-    private int bestRow(int person) {
-        Rows now = rowsNow();
-        int own = ownMatters(person);
+    private int bestRow(Rows now, int own) {
         int best = NONE;
         int most = 0;
         for (int i = 0; i < now.howMany(); i++) {
@@ -603,8 +586,7 @@ public final class AnswersFirst {
         return best;
     }
 
-    private boolean hasBetter(int row, int own) {
-        Rows now = rowsNow();
+    private boolean hasBetter(Rows now, int row, int own) {
         int present = worthOf(row & now.allBits(), own);
         for (int other = 0; other <= now.allBits(); other++) {
             boolean wouldFit = (now.brokenBy(other) & ~own) == 0;
@@ -655,16 +637,19 @@ public final class AnswersFirst {
         }
     }
 
-    /** What a text says: matters, or replies and letters, which have a day, WHO and TO alone. */
+    /** What a text says, byte by byte: its entries, each with the parts of a form, or a fault. */
     private static final class Entries {
-        private final boolean areMatters;
+        private final int[] form;
         private final int[] parts = new int[MOST_ENTRIES * PARTS];
+        private int bytes;
+        private int entry;
+        private int next;
+        private int who;
         private int size;
-        private int fault = NONE;
-        private int place;
+        private int stop = NONE;
 
-        Entries(boolean areMatters) {
-            this.areMatters = areMatters;
+        Entries(int[] form) {
+            this.form = form;
         }
 
         int howMany() {
@@ -672,7 +657,10 @@ public final class AnswersFirst {
         }
 
         int faultPlace() {
-            return fault;
+            if (stop != NONE) {
+                return stop;
+            }
+            return bytes == 0 || next == form.length ? NONE : bytes;
         }
 
         int part(int i, int what) {
@@ -683,8 +671,8 @@ public final class AnswersFirst {
         /** The entries of which a part is so, as bits. */
         int with(int what, int v) {
             int bits = 0;
-            for (int i = 0; i < size; i++) {
-                if (part(i, what) == v) {
+            for (int i = 0; i < size && i < MOST_ENTRIES; i++) {
+                if (what >= 0 && what < PARTS && parts[i * PARTS + what] == v) {
                     bits |= 1 << i;
                 }
             }
@@ -694,122 +682,90 @@ public final class AnswersFirst {
         /** The entries with that day or an earlier one, as bits. */
         int byDay(int day) {
             int bits = 0;
-            for (int i = 0; i < size; i++) {
-                if (part(i, DAY) <= day) {
+            for (int i = 0; i < size && i < MOST_ENTRIES; i++) {
+                if (parts[i * PARTS + DAY] <= day) {
                     bits |= 1 << i;
                 }
             }
             return bits;
         }
 
-        void readFrom(Text text) {
-            place = 0;
-            fault = NONE;
+        void begin() {
+            bytes = 0;
+            entry = 0;
+            next = 0;
             size = 0;
-            if (text.length() > 0) {
-                readAll(text);
-            }
-            if (fault != NONE) {
-                size = 0;
+            stop = NONE;
+        }
+
+        void readAgain(Text text) {
+            begin();
+            for (int i = 0; i < text.length(); i++) {
+                take(text.at(i));
             }
         }
 
-        private void readAll(Text text) {
-            for (int i = 0; i < MOST_ENTRIES; i++) {
-                boolean isWhole = areMatters ? takeMatter(text, i) : takeLetter(text, i);
-                if (!isWhole) {
-                    fault = place;
-                    return;
-                }
-                size = i + 1;
-                if (place >= text.length()) {
-                    return;
-                }
-                if (text.at(place) != ';') {
-                    fault = place;
-                    return;
-                }
-                place++;
+        /** One byte more; behind the first with which it cannot go on none matters. */
+        void take(int b) {
+            if (stop == NONE && !goesOnWith(b)) {
+                stop = bytes;
             }
-            // A ; behind the tenth: an eleventh has no place.
-            fault = place;
+            bytes++;
+            boolean isWell = stop == NONE && next == form.length;
+            size = isWell ? entry + 1 : 0;
         }
 
-        private boolean takeMatter(Text text, int i) {
-            int who = takeFigure(text, PERSONS - 1);
-            int to = who == NONE ? NONE : takeOther(text, who);
-            int day = to == NONE ? NONE : takeDay(text);
-            int word = day == NONE ? NONE : takeSign(text, "ny");
-            int when = word == NONE ? NONE : takeSign(text, "aeyns");
-            int by = when < IF_YES ? NONE : takeFigure(text, MOST_ENTRIES - 1);
-            if (when == NONE || when >= IF_YES && by == NONE) {
+        private boolean goesOnWith(int b) {
+            if (next >= form.length) {
+                entry++;
+                next = 0;
+                return b == ';';
+            }
+            if (next < 0 || entry < 0 || entry >= MOST_ENTRIES) {
                 return false;
             }
-            keep(i, who, to, day);
-            keepReason(i, word, when, by);
+            int what = form[next];
+            int v = valueOf(what, b);
+            if (v == NONE) {
+                return false;
+            }
+            keep(what, v);
+            next++;
+            if (what == WHEN && v < IF_YES) {
+                keep(BY, NONE);
+                next = form.length;
+            }
             return true;
         }
 
-        private boolean takeLetter(Text text, int i) {
-            int day = takeDay(text);
-            int who = day == NONE ? NONE : takeFigure(text, PERSONS - 1);
-            int to = who == NONE ? NONE : takeOther(text, who);
-            if (to == NONE) {
-                return false;
-            }
-            keep(i, who, to, day);
-            return true;
-        }
-
-        private void keep(int i, int who, int to, int day) {
-            if (i >= 0 && i < MOST_ENTRIES) {
-                parts[i * PARTS + WHO] = who;
-                parts[i * PARTS + TO] = to;
-                parts[i * PARTS + DAY] = day;
+        private int valueOf(int what, int b) {
+            switch (what) {
+                case WHO:
+                    return figure(b, PERSONS - 1);
+                case TO:
+                    return b - '0' == who ? NONE : figure(b, PERSONS - 1);
+                case WORD:
+                    return "ny".indexOf((char) b);
+                case WHEN:
+                    return "aeyns".indexOf((char) b);
+                default:
+                    return figure(b, 9);
             }
         }
 
-        private void keepReason(int i, int word, int when, int by) {
-            if (i >= 0 && i < MOST_ENTRIES) {
-                parts[i * PARTS + WORD] = word;
-                parts[i * PARTS + WHEN] = when;
-                parts[i * PARTS + BY] = by;
+        private void keep(int what, int v) {
+            int place = entry * PARTS + what;
+            if (place < 0 || place >= parts.length) {
+                return;
             }
+            boolean isSecondFigure = what == DAY && next > 0 && next <= form.length && form[next - 1] == DAY;
+            parts[place] = isSecondFigure ? 10 * parts[place] + v : v;
+            who = what == WHO ? v : who;
         }
 
-        // Each take goes on behind what it took; where it finds something else, it stays, so that
-        // the place is then the fault.
-
-        private int takeFigure(Text text, int most) {
-            int figure = text.at(place) - '0';
-            if (figure < 0 || figure > most) {
-                return NONE;
-            }
-            place++;
-            return figure;
-        }
-
-        private int takeOther(Text text, int who) {
-            if (text.at(place) - '0' == who) {
-                return NONE;
-            }
-            return takeFigure(text, PERSONS - 1);
-        }
-
-        private int takeDay(Text text) {
-            int tens = takeFigure(text, 9);
-            int ones = tens == NONE ? NONE : takeFigure(text, 9);
-            return ones == NONE ? NONE : 10 * tens + ones;
-        }
-
-        private int takeSign(Text text, String signs) {
-            int b = text.at(place);
-            int which = b == NONE ? NONE : signs.indexOf((char) b);
-            if (which < 0) {
-                return NONE;
-            }
-            place++;
-            return which;
+        private static int figure(int b, int most) {
+            int v = b - '0';
+            return v < 0 || v > most ? NONE : v;
         }
     }
 
@@ -1064,14 +1020,10 @@ public final class AnswersFirst {
             return unasked;
         }
 
-        int owedByAll() {
-            return excess(lack);
-        }
-
         // A letter can only be that of replies to the one who wrote it, so the set that lacks
         // most is, for each person apart, the one that lacks most among the replies to it.
-        int owedAmong(int repliesOfOne) {
-            return excess(lack & repliesOfOne);
+        int owedAmong(int replies) {
+            return excess(lack & replies);
         }
     }
 

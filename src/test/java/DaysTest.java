@@ -121,6 +121,8 @@ public final class DaysTest {
         Checks.say(x, 0, "0110ya;1010ys0");
         C.due("rest(1, 0), rather not", x.rest(1, 0), 0);
         C.due("rest(1, 1), rather written", x.rest(1, 1), 0);
+        Checks.say(x, 0, "0110ya");
+        C.due("rest(1, 0), rather none at all", x.rest(1, 0), 0);
         Checks.say(x, 0, "0110ys0");
         C.due("rest, no row at all", x.rest(0, 0), -3);
     }

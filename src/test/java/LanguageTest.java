@@ -22,8 +22,8 @@ public final class LanguageTest {
         + "cannot/1 freed/1 broken/1 nearest/1 steps/2 returns/2 hangs/1 rings/0 had/3 asked/3 open/2 best/2 rest/2 "
         + "owed/1 lack/0 unasked/0 fines/1 seen/2 forget/0 refused/1 lot/2 sheet/3 lose/1 put/4 get/3 copy/5 write/1 "
         + "count/1 digest/0";
-    private static final Pattern METHOD =
-        Pattern.compile("(?m)^( {4}| {8})((?:public |private |static |final )*)([A-Za-z]+(?:\\[\\])? )?([A-Za-z]+)\\(([^)]*)\\) \\{");
+    private static final Pattern METHOD = Pattern.compile("(?m)^( {4}| {8})((?:public |private |static |final )*)"
+        + "([A-Za-z]+(?:\\[\\])? )?([A-Za-z]+)\\(([^)]*)\\) \\{");
     private static final Checks C = new Checks();
 
     public static void main(String[] args) throws IOException {
@@ -43,7 +43,8 @@ public final class LanguageTest {
             if (!Modifier.isPrivate(m.getModifiers())) {
                 got.add(m.getName() + "/" + m.getParameterCount());
                 C.isTrue(m + " is public and of the object", m.getModifiers() == Modifier.PUBLIC);
-                C.isTrue(m + " answers an int", m.getReturnType() == (m.getName().equals("digest") ? long.class : int.class));
+                Class<?> answer = m.getName().equals("digest") ? long.class : int.class;
+                C.isTrue(m + " answers " + answer, m.getReturnType() == answer);
                 for (Class<?> p : m.getParameterTypes()) {
                     C.isTrue(m + " takes ints", p == int.class);
                 }

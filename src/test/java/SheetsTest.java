@@ -201,6 +201,14 @@ public final class SheetsTest {
         digestIsAsTold("no row", x);
         x.set(3, 1);
         digestIsAsTold("let off", x);
+        Checks.say(x, 0, "0110ya;0110ys1;0110ys2");
+        C.due("two to be freed", x.freed(0), 2);
+        digestIsAsTold("two to be freed", x);
+        Checks.say(x, 0, "0120ya;0121ya;1029ya;1030ya;1020ys4;1330yy5;0330nn6");
+        digestIsAsTold("days about 20", x);
+        x.set(3, 127);
+        C.due("row 0 fits", x.rows(0), 0);
+        digestIsAsTold("row 0 fits", x);
         x.type(1, ';');
         digestIsAsTold("a fault", x);
         long before = x.digest();

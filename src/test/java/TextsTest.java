@@ -6,6 +6,7 @@ public final class TextsTest {
         newObject();
         type();
         wipeAndUndo();
+        changesAreSeen();
         faultOfMatters();
         faultOfLetters();
         matter();
@@ -27,6 +28,9 @@ public final class TextsTest {
         for (int s = 0; s < 4; s++) {
             C.due("new: lose", x.lose(s), -11);
         }
+        C.due("new: rows(-1)", new AnswersFirst().rows(-1), 1);
+        C.due("new: rows(0)", new AnswersFirst().rows(0), 0);
+        C.due("new: lack()", new AnswersFirst().lack(), 0);
         C.due("NONE", AnswersFirst.NONE, -1);
         C.due("BAD", AnswersFirst.BAD, -2);
         C.due("NOT", AnswersFirst.NOT, -3);
@@ -78,6 +82,35 @@ public final class TextsTest {
         Checks.say(x, 2, "1001");
         C.due("undo(2)", x.undo(2), 3);
         C.due("wipe(2)", x.wipe(2), 3);
+    }
+
+    /** What was worked out for a text does not outlive a change of it. */
+    private static void changesAreSeen() {
+        AnswersFirst x = Checks.withMatters("0110ya");
+        C.due("rows(0)", x.rows(0), 1);
+        for (char sign : ";0110ya".toCharArray()) {
+            x.type(0, sign);
+            C.due("rows(0), typing", x.rows(0), x.fault(0) == -1 ? 3 : 0);
+        }
+        for (int left = 12; left >= 6; left--) {
+            C.due("undo(0)", x.undo(0), left);
+            C.due("rows(0), undoing", x.rows(0), left == 6 ? 1 : 0);
+        }
+        x.wipe(0);
+        C.due("rows(0), wiped", x.rows(0), 0);
+        Checks.say(x, 1, "0001");
+        C.due("owed(-1)", x.owed(-1), 1);
+        for (char sign : "0910".toCharArray()) {
+            x.type(2, sign);
+            C.due("owed(-1), typing", x.owed(-1), x.count(2) == 1 ? 0 : 1);
+        }
+        x.undo(1);
+        C.due("owed(-1), undone", x.owed(-1), 0);
+        C.due("unasked(), undone", x.unasked(), 1);
+        x.type(1, '1');
+        C.due("unasked(), typed again", x.unasked(), 0);
+        x.wipe(1);
+        C.due("unasked(), wiped", x.unasked(), 1);
     }
 
     private static void faultOfMatters() {
@@ -201,6 +234,8 @@ public final class TextsTest {
         fill(x, 0, 0, 1, 1, 0, 0);
         C.due("read, two whole", x.read(0), 2);
         C.due("refused by what was read", x.refused(0), 1);
+        fill(x, 0, 0, 1, 1, 0);
+        C.due("read, two and nothing more", x.read(0), 2);
         C.due("read takes the place of what was seen", x.read(0), 2);
         C.due("count(6)", x.count(6), 2);
         fill(x, 0, 10, 0, 1, 1);

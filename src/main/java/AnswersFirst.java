@@ -789,7 +789,7 @@ public final class AnswersFirst {
             fits = 0;
             for (int row = 0; row <= all; row++) {
                 broken[row] = (broken[row] ^ row) & all & ~letOff;
-                if (broken[row] == 0) {
+                if (broken[row] == 0 && fits < MOST_ROWS) {
                     fitting[fits] = row;
                     fits++;
                 }

@@ -115,7 +115,7 @@ public final class AnswersFirst {
         if (sheets[s].isLost()) {
             return finding(NULL);
         }
-        seen.clearAll();
+        int before = seen.howMany();
         for (int i = 0; i + 1 < sheets[s].length(); i += 2) {
             int matter = sheets[s].item(i);
             int is = sheets[s].item(i + 1);
@@ -124,7 +124,7 @@ public final class AnswersFirst {
             }
             seen.add(matter, is);
         }
-        return seen.howMany();
+        return seen.howMany() - before;
     }
 
     // ---- rows

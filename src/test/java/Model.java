@@ -159,14 +159,11 @@ final class Model {
         if (sheets[s] == null) {
             return found(1);
         }
-        seen.clear();
-        int n = length(s) / 2;
-        for (int i = 0; i < n; i++) {
-            if (seen(item(s, 2 * i), item(s, 2 * i + 1)) < 0) {
-                break;
-            }
+        int read = 0;
+        while (2 * read + 1 < length(s) && seen(item(s, 2 * read), item(s, 2 * read + 1)) > 0) {
+            read++;
         }
-        return seen.size();
+        return read;
     }
 
     // ---- rows

@@ -13,6 +13,7 @@ public final class TextsTest {
         set();
         worth();
         read();
+        readKeepsSeen();
         C.end();
     }
 
@@ -231,28 +232,62 @@ public final class TextsTest {
         C.due("read, lost: count(8)", x.count(8), 1);
         C.due("read(-1)", x.read(-1), -2);
         C.due("read(4)", x.read(4), -2);
-        fill(x, 0, 0, 1, 1, 0, 0);
-        C.due("read, two whole", x.read(0), 2);
-        C.due("refused by what was read", x.refused(0), 1);
+        readIs(0, new int[] {0, 1, 1, 0, 0}, 2);
+        readIs(0, new int[] {0, 1, 1, 0}, 2);
+        readIs(1, new int[] {9, 0, 9}, 1);
+        readIs(2, new int[] {0}, 0);
+        readIs(2, new int[] {}, 0);
+        readIs(0, new int[] {10, 0, 1, 1}, 0);
+        readIs(0, new int[] {3, 1, 0, 2, 1, 1}, 1);
+        readIs(1, new int[] {-1, 1, 0, 0}, 0);
+        readIs(2, new int[] {0, -1, 0, 0}, 0);
+        readIs(2, new int[48], 8);
         fill(x, 0, 0, 1, 1, 0);
-        C.due("read, two and nothing more", x.read(0), 2);
-        C.due("read takes the place of what was seen", x.read(0), 2);
-        C.due("count(6)", x.count(6), 2);
-        fill(x, 0, 10, 0, 1, 1);
-        C.due("read, no such matter", x.read(0), 0);
-        C.due("read, none: count(6)", x.count(6), 0);
-        fill(x, 0, 3, 1, 0, 2, 1, 1);
-        C.due("read, neither 1 nor 0", x.read(0), 1);
-        fill(x, 1, -1, 1, 0, 0);
-        C.due("read, below 0", x.read(0), 0);
-        fill(x, 2, 0, -1, 0, 0);
-        C.due("read, below 0", x.read(0), 0);
-        x.sheet(3, 2, 48);
-        C.due("read, eight at most", x.read(3), 8);
-        C.due("seen, eight at most", x.seen(0, 0), -4);
-        x.sheet(3, 2, 0);
-        C.due("read, no items", x.read(3), 0);
-        C.due("read, no items: count(6)", x.count(6), 0);
+        x.read(0);
+        C.due("refused by what was read", x.refused(0), 1);
+        fill(x, 0, 1, 1);
+        x.read(0);
+        C.due("refused by what was read, too", x.refused(0), 0);
+    }
+
+    /** On a new object: how many are read of these items, and are SEEN then. */
+    private static void readIs(int form, int[] items, int due) {
+        AnswersFirst x = new AnswersFirst();
+        fill(x, form, items);
+        C.due("read", x.read(0), due);
+        C.due("read: count(6)", x.count(6), due);
+    }
+
+    /** What was SEEN ahead stays, and counts among the eight. */
+    private static void readKeepsSeen() {
+        AnswersFirst x = Checks.withMatters("0110ya;0110ne");
+        x.seen(1, 1);
+        x.sheet(0, 0, 0);
+        C.due("read, no items", x.read(0), 0);
+        C.due("read, no items: count(6)", x.count(6), 1);
+        C.due("read, no items: refused(0)", x.refused(0), 0);
+        fill(x, 0, 10, 0);
+        C.due("read, none that may be", x.read(0), 0);
+        C.due("read, none that may be: count(6)", x.count(6), 1);
+        fill(x, 0, 0, 1, 1, 0, 2, 0);
+        C.due("read, three more", x.read(0), 3);
+        C.due("read, three more: count(6)", x.count(6), 4);
+        C.due("read again, three more", x.read(0), 3);
+        C.due("read again: count(6)", x.count(6), 7);
+        C.due("read, one more may be", x.read(0), 1);
+        C.due("read, one more: count(6)", x.count(6), 8);
+        C.due("read, none more may be", x.read(0), 0);
+        C.due("read, none more: count(6)", x.count(6), 8);
+        C.due("read, it is full", x.seen(0, 0), -4);
+        x.lose(0);
+        C.due("read, lost", x.read(0), -11);
+        C.due("read, lost: count(6)", x.count(6), 8);
+        C.due("what was read is forgotten, too", x.forget(), 8);
+        C.due("refused(0), forgotten", x.refused(0), 1);
+        fill(x, 2, 0, 0);
+        C.due("read, behind forget()", x.read(0), 1);
+        C.due("read, behind forget(): count(6)", x.count(6), 1);
+        C.due("read, behind forget(): refused(0)", x.refused(0), 0);
     }
 
     private static void fill(AnswersFirst x, int form, int... items) {

@@ -16,7 +16,7 @@ public final class AnswersFirst {
     private static final int MOST_SEEN = 8, MOST_WORTH = 9, MOST_STEPS = 99, MOST_LOTS = 99;
     private static final int SHEETS = 4, FORMS = 3, MOST_ITEMS = 48;
     private static final int NULL = 1, INDEX = 2, CAST = 3, STORE = 4, SIZE = 5;
-    private static final int ANY_NUMBER = -1000, FINDING = -10, WELL = 0;
+    private static final int ANY_NUMBER = -1000, LEAST_INT = 1 << 31, FINDING = -10, WELL = 0;
 
     private final Text[] texts = {new Text(80), new Text(60), new Text(60)};
     private final Entries[] entries = {
@@ -363,7 +363,7 @@ public final class AnswersFirst {
 
     public int get(int s, int form, int i) {
         if (isOutside(s, SHEETS) || itemRefusal(sheets[s], form, i) != WELL) {
-            return Integer.MIN_VALUE;
+            return LEAST_INT;
         }
         return sheets[s].item(i);
     }

@@ -2,12 +2,18 @@
 final class Checks {
     private int asked;
     private int wrong;
+    private String sentence = "";
+
+    /** The sentence of the document that the next answers are held against. */
+    void of(String words) {
+        sentence = "[" + words + "] ";
+    }
 
     void due(String call, long got, long want) {
         asked++;
         if (got != want) {
             wrong++;
-            System.out.println(call + " answered " + got + ", due is " + want);
+            System.out.println(sentence + call + " answered " + got + ", due is " + want);
         }
     }
 
@@ -15,7 +21,7 @@ final class Checks {
         asked++;
         if (!holds) {
             wrong++;
-            System.out.println("not so: " + what);
+            System.out.println(sentence + "not so: " + what);
         }
     }
 
@@ -38,6 +44,21 @@ final class Checks {
         AnswersFirst x = new AnswersFirst();
         say(x, 0, matters);
         return x;
+    }
+
+    static AnswersFirst withReplies(String replies, String letters) {
+        AnswersFirst x = new AnswersFirst();
+        say(x, 1, replies);
+        say(x, 2, letters);
+        return x;
+    }
+
+    /** A sheet becomes a row of a form with these items. */
+    static void fill(AnswersFirst x, int s, int form, int... items) {
+        x.sheet(s, form, items.length);
+        for (int i = 0; i < items.length; i++) {
+            x.put(s, form, i, items[i]);
+        }
     }
 
     /** The same entry so many times, with ; between them. */

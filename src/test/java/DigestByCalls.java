@@ -1,16 +1,18 @@
-/** The digest as the document tells it, from the answers of the other calls. */
+import java.math.BigInteger;
+
+/** The digest as the document tells it, from the answers of the other calls, wrapped only at the end. */
 final class DigestByCalls {
-    private long h = 17;
+    private BigInteger h = BigInteger.valueOf(17);
 
     static long of(AnswersFirst x) {
         DigestByCalls d = new DigestByCalls();
         d.goOn(x);
-        return d.h;
+        return d.h.longValue();
     }
 
     private void mix(long... values) {
         for (long v : values) {
-            h = h * 31 + v;
+            h = h.multiply(BigInteger.valueOf(31)).add(BigInteger.valueOf(v));
         }
     }
 

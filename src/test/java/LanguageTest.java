@@ -24,6 +24,8 @@ public final class LanguageTest {
         + "count/1 digest/0";
     private static final Pattern METHOD = Pattern.compile("(?m)^( {4}| {8})((?:public |private |static |final )*)"
         + "([A-Za-z]+(?:\\[\\])? )?([A-Za-z]+)\\(([^)]*)\\) \\{");
+    private static final Set<String> LIBRARY = Set.of("Math.max", "Math.min", "Integer.bitCount", "Arrays.fill",
+        "System.arraycopy");
     private static final Checks C = new Checks();
 
     public static void main(String[] args) throws IOException {
@@ -112,6 +114,10 @@ public final class LanguageTest {
         Matcher imports = Pattern.compile("import ([^;]*);").matcher(code);
         while (imports.find()) {
             C.isTrue("import " + imports.group(1), imports.group(1).equals("java.util.Arrays"));
+        }
+        Matcher library = Pattern.compile("\\b(Math|Integer|Long|Arrays|System|String)\\.(\\w+)").matcher(code);
+        while (library.find()) {
+            C.isTrue("the library has " + library.group(), LIBRARY.contains(library.group()));
         }
         C.isTrue("texts are not joined by +", !Pattern.compile("\"\" *\\+|\\+ *\"\"").matcher(code).find());
         C.isTrue("signs 0 to 127", code.chars().allMatch(c -> c < 128));

@@ -2,7 +2,9 @@ import java.util.Random;
 
 /** Runs of calls drawn by a fixed seed, each answer held against the model's. */
 public final class ModelTest {
-    private static final int RUNS = 400;
+    private static final int RUNS = 800;
+    /** With the texts that may come behind, and with the digest by its calls, 512 calls are not passed. */
+    private static final int MOST_CALLS = 220;
     private static final Checks C = new Checks();
 
     private final Random random;
@@ -22,7 +24,7 @@ public final class ModelTest {
 
     private void go() {
         int calls = 0;
-        while (calls < 440) {
+        while (calls < MOST_CALLS) {
             int act = random.nextInt(20);
             if (act == 0) {
                 calls += say(0, matters());

@@ -13,23 +13,16 @@ public final class RepliesTest {
         C.end();
     }
 
-    private static AnswersFirst with(String replies, String letters) {
-        AnswersFirst x = new AnswersFirst();
-        Checks.say(x, 1, replies);
-        Checks.say(x, 2, letters);
-        return x;
-    }
-
     private static void owed() {
-        C.due("owed, the letter in time", with("0001", "0910").owed(-1), 0);
-        C.due("owed, a day early", with("0001", "0810").owed(-1), 1);
-        C.due("owed, a day late", with("0001", "1010").owed(-1), 1);
-        C.due("owed, not back", with("0001", "0901").owed(-1), 1);
-        C.due("owed, to another", with("0001", "0912").owed(-1), 1);
-        C.due("owed, from another", with("0001", "0920").owed(-1), 1);
-        C.due("owed, one letter for two", with("0001;0001", "0910").owed(-1), 1);
-        C.due("owed, nothing", with("", "0910").owed(-1), 0);
-        AnswersFirst x = with("0001;0021;0302;0302", "1010;1110");
+        C.due("owed, the letter in time", Checks.withReplies("0001", "0910").owed(-1), 0);
+        C.due("owed, a day early", Checks.withReplies("0001", "0810").owed(-1), 1);
+        C.due("owed, a day late", Checks.withReplies("0001", "1010").owed(-1), 1);
+        C.due("owed, not back", Checks.withReplies("0001", "0901").owed(-1), 1);
+        C.due("owed, to another", Checks.withReplies("0001", "0912").owed(-1), 1);
+        C.due("owed, from another", Checks.withReplies("0001", "0920").owed(-1), 1);
+        C.due("owed, one letter for two", Checks.withReplies("0001;0001", "0910").owed(-1), 1);
+        C.due("owed, nothing", Checks.withReplies("", "0910").owed(-1), 0);
+        AnswersFirst x = Checks.withReplies("0001;0021;0302;0302", "1010;1110");
         C.due("owed, none in time", x.owed(-1), 4);
         x.set(1, 1);
         C.due("owed, GRACE", x.owed(-1), 3);
@@ -43,34 +36,34 @@ public final class RepliesTest {
         C.due("owed(-2)", x.owed(-2), -2);
         C.due("owed(6)", x.owed(6), -2);
         // The first may take either letter, the second only the earlier one: no greedy laying.
-        x = with("0001;0101", "1010;1110");
+        x = Checks.withReplies("0001;0101", "1010;1110");
         x.set(1, 2);
         C.due("owed, each has one", x.owed(-1), 0);
-        x = with("0201;0001", "1110;1210");
+        x = Checks.withReplies("0201;0001", "1110;1210");
         x.set(1, 2);
         C.due("owed, each has one, turned", x.owed(-1), 0);
-        C.due("owed, a fault in the replies", with("0001;", "0910").owed(-1), 0);
-        C.due("owed, a fault in the letters", with("0001", "0910;").owed(-1), 1);
+        C.due("owed, a fault in the replies", Checks.withReplies("0001;", "0910").owed(-1), 0);
+        C.due("owed, a fault in the letters", Checks.withReplies("0001", "0910;").owed(-1), 1);
     }
 
     private static void lack() {
-        C.due("lack, none", with("0001", "0910").lack(), 0);
-        C.due("lack, no replies", with("", "0910").lack(), 0);
-        C.due("lack, all of them", with("0001;0101", "").lack(), 3);
-        C.due("lack, three on one letter", with("0001;0001;0001;0102", "0910;1020").lack(), 7);
-        C.due("lack, the fewest", with("0201;0001;0001", "1110;0910").lack(), 6);
-        C.due("lack, of two persons", with("0001;0002;0001;0002", "0910;0920").lack(), 15);
-        AnswersFirst x = with("0001;0201;0201;0501", "0910;1110");
+        C.due("lack, none", Checks.withReplies("0001", "0910").lack(), 0);
+        C.due("lack, no replies", Checks.withReplies("", "0910").lack(), 0);
+        C.due("lack, all of them", Checks.withReplies("0001;0101", "").lack(), 3);
+        C.due("lack, three on one letter", Checks.withReplies("0001;0001;0001;0102", "0910;1020").lack(), 7);
+        C.due("lack, the fewest", Checks.withReplies("0201;0001;0001", "1110;0910").lack(), 6);
+        C.due("lack, of two persons", Checks.withReplies("0001;0002;0001;0002", "0910;0920").lack(), 15);
+        AnswersFirst x = Checks.withReplies("0001;0201;0201;0501", "0910;1110");
         C.due("lack", x.lack(), 14);
         x.set(1, 2);
         C.due("lack, of like ones the fewest", x.lack(), 14);
     }
 
     private static void unasked() {
-        C.due("unasked, all", with("", "0910;1010").unasked(), 3);
-        C.due("unasked, the second", with("0001", "0910;1010;0901").unasked(), 6);
-        C.due("unasked, two for one reply", with("0001", "0910;0910").unasked(), 0);
-        AnswersFirst x = with("0001;0101", Checks.times("1310", 10));
+        C.due("unasked, all", Checks.withReplies("", "0910;1010").unasked(), 3);
+        C.due("unasked, the second", Checks.withReplies("0001", "0910;1010;0901").unasked(), 6);
+        C.due("unasked, two for one reply", Checks.withReplies("0001", "0910;0910").unasked(), 0);
+        AnswersFirst x = Checks.withReplies("0001;0101", Checks.times("1310", 10));
         C.due("unasked, ten", x.unasked(), 1023);
         x.set(1, 3);
         C.due("unasked, GRACE", x.unasked(), 0);
@@ -82,7 +75,7 @@ public final class RepliesTest {
     }
 
     private static void fines() {
-        AnswersFirst x = with("0001;0021;0102;0203", "0910");
+        AnswersFirst x = Checks.withReplies("0001;0021;0102;0203", "0910");
         int[] owed = {0, 1, 1, 1, 0, 0};
         for (int person = 0; person < 6; person++) {
             C.due("fines(" + person + ")", x.fines(person), 5 * owed[person]);

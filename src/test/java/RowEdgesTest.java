@@ -200,7 +200,7 @@ public final class RowEdgesTest {
     }
 
     private static void freedNone() {
-        C.of("FREED: the fewest MATTERS to be LET OFF, too, so that there is a ROW (none, if there is one)");
+        C.of("FREED: the fewest MATTERS to be LET OFF, too, so that there is a ROW");
         freedIs(new AnswersFirst(), 0);
         freedIs(each(10, "0110yy"), 0);
         freedIs(with(AGAINST_ITSELF, 1), 0);

@@ -184,9 +184,8 @@ public final class SheetsTest {
     }
 
     private static void digest() {
-        AnswersFirst x = new AnswersFirst();
-        digestIsAsTold("new", x);
-        Checks.say(x, 0, "0110ya;1210ny0;2011yn1;0312ys2;1205ne");
+        digestIsAsTold("new", new AnswersFirst());
+        AnswersFirst x = Checks.withMatters("0110ya;1210ny0;2011yn1;0312ys2;1205ne");
         digestIsAsTold("matters", x);
         Checks.say(x, 1, "0001;0001;0210;0512;0401");
         Checks.say(x, 2, "0910;1010;1101;1421");
@@ -196,20 +195,21 @@ public final class SheetsTest {
         x.worth(0, -3);
         x.seen(3, 0);
         digestIsAsTold("settings", x);
+        x = Checks.withReplies("0001;0001;0210;0512;0401", "0910;1010;1101;1421");
         Checks.say(x, 0, "0110ys1;1210yy0;2010na");
         C.due("no row", x.rows(-1), 0);
         digestIsAsTold("no row", x);
         x.set(3, 1);
         digestIsAsTold("let off", x);
-        Checks.say(x, 0, "0110ya;0110ys1;0110ys2");
+        x = Checks.withMatters("0110ya;0110ys1;0110ys2");
         C.due("two to be freed", x.freed(0), 2);
         digestIsAsTold("two to be freed", x);
-        Checks.say(x, 0, "0120ya;0121ya;1029ya;1030ya;1020ys4;1330yy5;0330nn6");
+        x = Checks.withMatters("0120ya;0121ya;1029ya;1030ya;1020ys4;1330yy5;0330nn6");
         digestIsAsTold("days about 20", x);
         x.set(3, 127);
         C.due("row 0 fits", x.rows(0), 0);
         digestIsAsTold("row 0 fits", x);
-        x.type(1, ';');
+        x.type(1, '0');
         digestIsAsTold("a fault", x);
         long before = x.digest();
         x.lose(0);

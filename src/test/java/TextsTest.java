@@ -242,10 +242,10 @@ public final class TextsTest {
         readIs(1, new int[] {-1, 1, 0, 0}, 0);
         readIs(2, new int[] {0, -1, 0, 0}, 0);
         readIs(2, new int[48], 8);
-        fill(x, 0, 0, 1, 1, 0);
+        Checks.fill(x, 0, 0, 0, 1, 1, 0);
         x.read(0);
         C.due("refused by what was read", x.refused(0), 1);
-        fill(x, 0, 1, 1);
+        Checks.fill(x, 0, 0, 1, 1);
         x.read(0);
         C.due("refused by what was read, too", x.refused(0), 0);
     }
@@ -253,7 +253,7 @@ public final class TextsTest {
     /** On a new object: how many are read of these items, and are SEEN then. */
     private static void readIs(int form, int[] items, int due) {
         AnswersFirst x = new AnswersFirst();
-        fill(x, form, items);
+        Checks.fill(x, 0, form, items);
         C.due("read", x.read(0), due);
         C.due("read: count(6)", x.count(6), due);
     }
@@ -266,10 +266,10 @@ public final class TextsTest {
         C.due("read, no items", x.read(0), 0);
         C.due("read, no items: count(6)", x.count(6), 1);
         C.due("read, no items: refused(0)", x.refused(0), 0);
-        fill(x, 0, 10, 0);
+        Checks.fill(x, 0, 0, 10, 0);
         C.due("read, none that may be", x.read(0), 0);
         C.due("read, none that may be: count(6)", x.count(6), 1);
-        fill(x, 0, 0, 1, 1, 0, 2, 0);
+        Checks.fill(x, 0, 0, 0, 1, 1, 0, 2, 0);
         C.due("read, three more", x.read(0), 3);
         C.due("read, three more: count(6)", x.count(6), 4);
         C.due("read again, three more", x.read(0), 3);
@@ -284,16 +284,9 @@ public final class TextsTest {
         C.due("read, lost: count(6)", x.count(6), 8);
         C.due("what was read is forgotten, too", x.forget(), 8);
         C.due("refused(0), forgotten", x.refused(0), 1);
-        fill(x, 2, 0, 0);
+        Checks.fill(x, 0, 2, 0, 0);
         C.due("read, behind forget()", x.read(0), 1);
         C.due("read, behind forget(): count(6)", x.count(6), 1);
         C.due("read, behind forget(): refused(0)", x.refused(0), 0);
-    }
-
-    private static void fill(AnswersFirst x, int form, int... items) {
-        x.sheet(0, form, items.length);
-        for (int i = 0; i < items.length; i++) {
-            x.put(0, form, i, items[i]);
-        }
     }
 }

@@ -5,6 +5,9 @@ public final class ModelTest {
     private static final int RUNS = 800;
     /** With the texts that may come behind, and with the digest by its calls, 512 calls are not passed. */
     private static final int MOST_CALLS = 220;
+    private static final int WHOLE_LIVES = 100, LIFE = 512;
+    /** A text, wiped, typed and asked for its fault; for replies and letters two of them. */
+    private static final int MOST_AT_ONCE = 130;
     private static final Checks C = new Checks();
 
     private final Random random;
@@ -17,15 +20,21 @@ public final class ModelTest {
 
     public static void main(String[] args) {
         for (int run = 0; run < RUNS; run++) {
-            new ModelTest(run).go();
+            ModelTest one = new ModelTest(run);
+            one.go(MOST_CALLS, MOST_CALLS);
+            C.due("digest()", one.x.digest(), DigestByCalls.of(one.x));
+        }
+        for (int run = 0; run < WHOLE_LIVES; run++) {
+            new ModelTest(RUNS + run).go(LIFE, LIFE - MOST_AT_ONCE);
         }
         C.end();
     }
 
-    private void go() {
+    /** So many calls; no text any more behind those of the second number. */
+    private void go(int most, int withTexts) {
         int calls = 0;
-        while (calls < MOST_CALLS) {
-            int act = random.nextInt(20);
+        while (calls < most) {
+            int act = calls < withTexts ? random.nextInt(20) : 2;
             if (act == 0) {
                 calls += say(0, matters());
             } else if (act == 1) {
@@ -36,7 +45,7 @@ public final class ModelTest {
                 calls++;
             }
         }
-        C.due("digest()", x.digest(), DigestByCalls.of(x));
+        C.isTrue("a life has " + LIFE + " calls", calls <= LIFE);
     }
 
     private int say(int text, String signs) {
@@ -185,7 +194,7 @@ public final class ModelTest {
             case 21 -> C.due("open", x.open(row, day), y.open(row, day));
             case 22 -> C.due("best", x.best(person, what), y.best(person, what));
             case 23 -> {
-                int first = below(3) == 0 || x.rows(0) < 0 ? row : x.rows(below(x.rows(-1)));
+                int first = below(3) == 0 || y.rows(0) < 0 ? row : y.rows(below(y.rows(-1)));
                 C.due("rest", x.rest(first, person), y.rest(first, person));
             }
             case 24 -> C.due("owed", x.owed(person), y.owed(person));
